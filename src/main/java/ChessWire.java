@@ -9,6 +9,8 @@ public final class ChessWire {
     public static final int NONE = -1, BAD = -2, NOT = -3, FULL = -4;
 
     private static final int NULL = 1, INDEX = 2, CAST = 3, STORE = 4, SIZE = 5;
+    private static final int LEAST_INT = 0x80000000;
+    private static final long LEAST_LONG = 0x8000000000000000L;
     private static final int SQUARES = 64, LAST_MOVE = 4095;
     // No man goes to more than 27 squares.
     private static final int MOST_MOVES = SQUARES * 27;
@@ -344,12 +346,12 @@ public final class ChessWire {
 
     public int get(int s, int form, int i) {
         if (isNoSheet(s) || Sheet.isNoForm(form)) {
-            return Integer.MIN_VALUE;
+            return LEAST_INT;
         }
         int found = itemFinding(sheets[s], form, i);
         if (found != 0) {
             finding(found);
-            return Integer.MIN_VALUE;
+            return LEAST_INT;
         }
         return sheets[s].itemAt(i);
     }
@@ -461,7 +463,7 @@ public final class ChessWire {
     }
 
     private static long refusedLong(int refusal) {
-        return Long.MIN_VALUE - refusal;
+        return LEAST_LONG - refusal;
     }
 
     private int finding(int number) {
@@ -564,8 +566,8 @@ public final class ChessWire {
         // A white man is his number, a black one the same below 0; 0 is nobody.
         private static final int PAWN = 1, KNIGHT = 2, BISHOP = 3, ROOK = 4, QUEEN = 5, KING = 6;
         private static final String WHITE_LETTERS = "PNBRQK", BLACK_LETTERS = "pnbrqk";
-        private static final int EVEN = 0, ODD = 1;
-        // Directions by turns along (even) and aslant (odd).
+        private static final int STRAIGHT = 1, ASLANT = 2;
+        // Directions by turns straight and aslant.
         private static final int[] STEP_COLUMN = {1, 1, 0, -1, -1, -1, 0, 1};
         private static final int[] STEP_ROW = {0, 1, 1, 1, 0, -1, -1, -1};
         private static final int[] LEAP_COLUMN = {1, 2, 2, 1, -1, -2, -2, -1};
@@ -750,7 +752,7 @@ public final class ChessWire {
                 if (man == 0) {
                     continue;
                 }
-                boolean aslant = (d & 1) == ODD;
+                boolean aslant = (d & 1) != 0;
                 if (man == QUEEN || man == (aslant ? BISHOP : ROOK)) {
                     return true;
                 }
@@ -764,10 +766,10 @@ public final class ChessWire {
             switch (man) {
                 case PAWN: return pawnTargets(from, own);
                 case KNIGHT: return leapTargets(from, own);
-                case BISHOP: return lineTargets(from, own, ODD, 2, 7);
-                case ROOK: return lineTargets(from, own, EVEN, 2, 7);
-                case QUEEN: return lineTargets(from, own, EVEN, 1, 7);
-                case KING: return lineTargets(from, own, EVEN, 1, 1);
+                case BISHOP: return lineTargets(from, own, ASLANT, 7);
+                case ROOK: return lineTargets(from, own, STRAIGHT, 7);
+                case QUEEN: return lineTargets(from, own, STRAIGHT | ASLANT, 7);
+                case KING: return lineTargets(from, own, STRAIGHT | ASLANT, 1);
                 default: return 0;
             }
         }
@@ -808,9 +810,12 @@ public final class ChessWire {
             return targets;
         }
 
-        private long lineTargets(int from, int own, int first, int stride, int reach) {
+        private long lineTargets(int from, int own, int ways, int reach) {
             long targets = 0;
-            for (int d = first; d < 8; d += stride) {
+            for (int d = 0; d < 8; d++) {
+                if ((ways & ((d & 1) == 0 ? STRAIGHT : ASLANT)) == 0) {
+                    continue;
+                }
                 for (int far = 1; far <= reach; far++) {
                     int c = (from & 7) + far * STEP_COLUMN[d];
                     int r = (from >> 3) + far * STEP_ROW[d];
