@@ -38,6 +38,13 @@ public final class BoardTest {
         Check.same("two kings", fresh.count(0), 2);
         Check.same("one white", fresh.count(1), 1);
         Check.same("all weights are 1", fresh.count(7), 3);
+        String[] walk = {"a1", "b2", "h8", "g8", "b2", "c3", "g8", "h8", "c3", "d4", "h8", "g8", "d4", "e5", "g8", "h8",
+            "e5", "f6"};
+        for (int i = 0; i < walk.length; i += 2) {
+            Check.same("a king's walk", fresh.play(Check.code(walk[i], walk[i + 1])), i / 2 + 1);
+        }
+        Check.same("kings keep apart", fresh.lawful(Check.code("h8", "g7")), 0);
+        Check.same("but no further", fresh.moves(-1), 2);
         Check.same("NONE", ChessWire.NONE, -1);
         Check.same("BAD", ChessWire.BAD, -2);
         Check.same("NOT", ChessWire.NOT, -3);
@@ -182,6 +189,11 @@ public final class BoardTest {
         Check.same("own men are not taken", wire.lawful(Check.code("a1", "a2")), 0);
         Check.same("no move", wire.lawful(4096), ChessWire.BAD);
         Check.same("no move", wire.lawful(-1), ChessWire.BAD);
+
+        ChessWire many = Check.on("R6R/3Q4/1Q4Q1/4Q3/2Q4Q/Q4Q2/pp1Q4/kBNN1KB1 w");
+        Check.same("as many as in chess can be", many.moves(-1), 218);
+        Check.same("the last of them", many.moves(217) / 64, 63);
+        Check.same("a table of them", many.table(2), 38 * 7 + 180 * 8);
 
         ChessWire castle = Check.on("4k3/8/8/8/8/8/8/R3K2R w");
         Check.same("no castling", castle.lawful(Check.code("e1", "g1")), 0);

@@ -148,6 +148,11 @@ public final class GameTest {
         Check.same("unlike first parts", wire.reading(0, 1), 2);
         Check.same("the same in all", wire.reading(1, 1), 1);
         Check.same("the same in all", wire.reading(2, 1), 1);
+        ChessWire queens = Check.on("7k/8/8/qQ6/8/8/8/7K w");
+        game(queens, "Qa6;Qa6");
+        Check.same("one by one", queens.readings(), 1);
+        Check.same("each part for itself", queens.reading(0, 1), 1);
+        Check.same("each part for itself", queens.reading(1, 1), 1);
     }
 
     private static void tooMany() {
@@ -168,6 +173,14 @@ public final class GameTest {
         Check.same("40 are not", forty.readings(), 40);
         Check.same("all unlike", forty.reading(0, 1), 40);
         Check.same("the first", forty.reading(0, 0), Check.code("a4", "a5"));
+
+        // The same behind one move: the knight leaves his king shielded.
+        ChessWire second = Check.on("k7/8/qqqqqqqq/8/qqq1qqqq/8/6PP/6NK w");
+        game(second, "Ne;5");
+        Check.same("41 moves behind one", second.readings(), ChessWire.FULL);
+        ChessWire less = Check.on("k7/8/qqqqqqqq/8/rqq1qqqq/8/6PP/6NK w");
+        game(less, "Ne;5");
+        Check.same("40 behind one", less.readings(), 40);
 
         // The same behind two moves: the king is taken, a pawn goes.
         ChessWire later = Check.on("8/8/qqqqqqqq/8/qqq1qqqq/8/6P1/kK6 b");
