@@ -1,6 +1,6 @@
 import java.lang.management.ManagementFactory;
 
-/** No call may make objects: the room of a run is filled by its constructors alone. Dear calls end soon. */
+/** No call makes objects: the room of a run is filled by its constructors alone. No call throws, whatever it is told. */
 public final class RoomTest {
     private static final String CROWDED = "QQQQQQQQ/QkQnQpQQ/Q1Q1Q1QQ/q1q1q1qq/1Q1Q1Q1Q/q1q1q1q1/1Q1Q1Q1K/Q1Q1Q1Q1 w";
 
@@ -19,6 +19,8 @@ public final class RoomTest {
         Check.that("calls made " + (behind - ahead) + " bytes of objects", behind - ahead < 20_000);
         Check.that("they answered", sum != 0);
         fullTexts();
+        edges(new ChessWire());
+        edges(Check.on(CROWDED));
         Check.end("RoomTest");
     }
 
@@ -45,5 +47,28 @@ public final class RoomTest {
             Check.that("a fault somewhere", wire.fault(text) >= 0);
         }
         Check.that("still answers", wire.digest() != 0);
+    }
+
+    private static void edges(ChessWire wire) {
+        int[] all = {Integer.MIN_VALUE, Integer.MIN_VALUE + 1, -4097, -65, -2, -1, 0, 1, 2, 3, 5, 9, 60, 64, 99, 255,
+            4095, 4096, Integer.MAX_VALUE - 1, Integer.MAX_VALUE};
+        long sum = 0;
+        for (int a : all) {
+            sum += wire.wipe(a) + wire.fault(a) + wire.square(a) + wire.moves(a) + wire.lawful(a) + wire.play(a)
+                + wire.read(a) + wire.means(a) + wire.could(a) + wire.table(a) + wire.played(a) + wire.move(a)
+                + wire.purse(a) + wire.lose(a) + wire.write(a) + wire.count(a);
+            for (int b : all) {
+                sum += wire.type(a, b) + wire.shortest(a, b) + wire.weight(a, b) + wire.answer(a, b)
+                    + wire.reading(a, b) + wire.sheet(2, b, a) + wire.sheet(a, 1, b);
+                for (int c : all) {
+                    sum += wire.gain(wire.moves(0), a, b, c) + wire.gain(a, b, c, 1) + wire.ahead(a, 9, c, b)
+                        + wire.ahead(wire.moves(0), a, b, c) + wire.lay(2, a, b, c) + wire.lay(a, 1, b, c)
+                        + wire.get(a, b, c) + wire.copy(1, a, 1, b, c) + wire.copy(a, 0, b, 0, c)
+                        + wire.sheet(a, b, c);
+                }
+            }
+        }
+        Check.that("every call answers", sum != 0);
+        Check.that("and goes on to", wire.digest() != 0);
     }
 }
