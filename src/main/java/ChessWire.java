@@ -12,8 +12,9 @@ public final class ChessWire {
     private static final int LEAST_INT = 0x80000000;
     private static final long LEAST_LONG = 0x8000000000000000L;
     private static final int SQUARES = 64, LAST_MOVE = 4095;
-    // No man goes to more than 27 squares.
-    private static final int MOST_MOVES = SQUARES * 27;
+    // A man goes to 27 squares at most, and a square is come to along 8 lines and by 8 leaps at most: of m men
+    // the lesser of 27 m and 16 (64 - m) moves, which is never more than 640.
+    private static final int MOST_MOVES = 640;
     private static final int KINDS = 6;
 
     private final Text[] texts;

@@ -69,33 +69,16 @@ public final class AgreeTest {
 
     private String board(int kind) {
         int share = new int[] {8, 25, 60, 97, 22}[kind];
-        char[] men = new char[64];
+        PlainWire.Place at = new PlainWire.Place();
         for (int square = 0; square < 64; square++) {
             boolean here = below(100) < share;
             String letters = kind > 2 && below(3) > 0 ? "QNRB" : "PPNBRQppnbrq";
-            men[square] = here ? letters.charAt(below(letters.length())) : '.';
+            at.men[square] = here ? letters.charAt(below(letters.length())) : '.';
         }
-        men[below(32)] = 'K';
-        men[32 + below(32)] = 'k';
-        StringBuilder text = new StringBuilder();
-        for (int row = 7; row >= 0; row--) {
-            int empty = 0;
-            for (int column = 0; column < 8; column++) {
-                char man = men[row * 8 + column];
-                if (man != '.' && empty > 0) {
-                    text.append(empty);
-                    empty = 0;
-                }
-                if (man == '.') {
-                    empty++;
-                } else {
-                    text.append(man);
-                }
-            }
-            text.append(empty > 0 ? "" + empty : "").append(row > 0 ? "/" : " ");
-        }
-        text.append(below(2) == 0 ? 'w' : 'b');
-        return below(12) == 0 ? spoilt(text.toString()) : text.toString();
+        at.men[below(32)] = 'K';
+        at.men[32 + below(32)] = 'k';
+        at.white = below(2) == 0;
+        return below(12) == 0 ? spoilt(at.text()) : at.text();
     }
 
     private String spoilt(String text) {

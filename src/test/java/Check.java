@@ -1,17 +1,35 @@
 /** Counts what the tests of one class found. */
 final class Check {
+    private static String topic = "";
+    private static boolean hushed;
     private static int passed;
     private static int failed;
 
     private Check() {
     }
 
+    /** What the checks from here on are about. */
+    static void about(String what) {
+        topic = what + ": ";
+    }
+
+    /** From here on what fails is only counted. */
+    static void hush() {
+        hushed = true;
+    }
+
+    static boolean allHeld() {
+        return passed > 0 && failed == 0;
+    }
+
     static void that(String what, boolean holds) {
         if (holds) {
             passed++;
-        } else {
-            failed++;
-            System.out.println("wrong: " + what);
+            return;
+        }
+        failed++;
+        if (!hushed) {
+            System.out.println("wrong: " + topic + what);
         }
     }
 
@@ -21,9 +39,11 @@ final class Check {
 
     /** Types a whole text behind what is there. */
     static void type(ChessWire wire, int text, String said) {
-        for (int i = 0; i < said.length(); i++) {
-            that("type takes byte " + i + " of " + said, wire.type(text, said.charAt(i)) > 0);
+        int taken = 0;
+        while (taken < said.length() && wire.type(text, said.charAt(taken)) > 0) {
+            taken++;
         }
+        same("bytes taken of " + said, taken, said.length());
     }
 
     /** One with this board. */
@@ -32,6 +52,22 @@ final class Check {
         type(wire, 0, board);
         same("fault of " + board, wire.fault(0), ChessWire.NONE);
         return wire;
+    }
+
+    /** A text in the place of the one that was there. */
+    static void retype(ChessWire wire, int text, String said) {
+        wire.wipe(text);
+        type(wire, text, said);
+    }
+
+    /** Whether a move, told by its two squares, is lawful. */
+    static void lawful(ChessWire wire, String move, boolean due) {
+        same(move + " lawful", wire.lawful(code(move)), due ? 1 : 0);
+    }
+
+    /** The number of a move that is told by its two squares, as e2e4. */
+    static int code(String move) {
+        return code(move.substring(0, 2), move.substring(2));
     }
 
     static int code(String from, String to) {

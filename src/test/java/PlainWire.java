@@ -86,6 +86,28 @@ final class PlainWire {
             return p;
         }
 
+        /** As text 0 says it. */
+        String text() {
+            StringBuilder said = new StringBuilder();
+            for (int row = 7; row >= 0; row--) {
+                int empty = 0;
+                for (int column = 0; column < 8; column++) {
+                    char man = men[row * 8 + column];
+                    if (man != '.' && empty > 0) {
+                        said.append(empty);
+                        empty = 0;
+                    }
+                    if (man == '.') {
+                        empty++;
+                    } else {
+                        said.append(man);
+                    }
+                }
+                said.append(empty > 0 ? "" + empty : "").append(row > 0 ? "/" : " ");
+            }
+            return said.append(white ? 'w' : 'b').toString();
+        }
+
         boolean ofWhite(int square) {
             return Character.isUpperCase(men[square]);
         }

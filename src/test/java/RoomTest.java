@@ -1,4 +1,7 @@
 import java.lang.management.ManagementFactory;
+import java.lang.reflect.Array;
+import java.lang.reflect.Field;
+import java.lang.reflect.Modifier;
 
 /** No call makes objects: the room of a run is filled by its constructors alone. No call throws, whatever it is told. */
 public final class RoomTest {
@@ -7,7 +10,10 @@ public final class RoomTest {
     private RoomTest() {
     }
 
-    public static void main(String[] args) {
+    public static void main(String[] args) throws IllegalAccessException {
+        int held = roomOf(new ChessWire());
+        System.out.println("one object holds " + held + " fields and elements");
+        Check.that("some hundreds of objects have room", held > 0 && held * 400 < 7_300_000);
         ChessWire wire = Check.on(CROWDED);
         Check.type(wire, 1, "Qa4");
         Check.type(wire, 2, "4;5;6");
@@ -22,6 +28,35 @@ public final class RoomTest {
         edges(new ChessWire());
         edges(Check.on(CROWDED));
         Check.end("RoomTest");
+    }
+
+    /** The fields and elements of an object or an array, and of what it holds. */
+    private static int roomOf(Object holder) throws IllegalAccessException {
+        if (holder == null) {
+            return 0;
+        }
+        return holder.getClass().isArray() ? roomOfArray(holder) : roomOfObject(holder);
+    }
+
+    private static int roomOfArray(Object array) throws IllegalAccessException {
+        int room = Array.getLength(array);
+        if (array instanceof Object[]) {
+            for (Object item : (Object[]) array) {
+                room += roomOf(item);
+            }
+        }
+        return room;
+    }
+
+    private static int roomOfObject(Object holder) throws IllegalAccessException {
+        int room = 0;
+        for (Field field : holder.getClass().getDeclaredFields()) {
+            if (!Modifier.isStatic(field.getModifiers())) {
+                field.setAccessible(true);
+                room += 1 + (field.getType().isPrimitive() ? 0 : roomOf(field.get(holder)));
+            }
+        }
+        return room;
     }
 
     private static long dearCalls(ChessWire wire, int times) {
